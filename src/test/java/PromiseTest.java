@@ -317,10 +317,14 @@ public final class PromiseTest {
     private static void registersAreWaitedFor() {
         TwinThreads read = Checks.with("a=b*c;d=a+a", "");
         ofThread("a register that is read", read, 0, 2, 2, 5, 0, 2, 0, 0, 1, 4, 1, 0);
+        TwinThreads second = Checks.with("a=b*c;d=b+a", "");
+        ofThread("the second register that is read", second, 0, 2, 2, 5, 0, 2, 0, 0, 1, 4, 1, 0);
         TwinThreads given = Checks.with("a=b*c;a=1", "");
         ofThread("a register that is given", given, 0, 2, 2, 5, 0, 2, 0, 0, 1, 4, 1, 0);
         TwinThreads cell = Checks.with("a=[b];[a]=c", "");
         ofThread("a register that tells a cell", cell, 0, 2, 2, 8, 0, 3, 0, 0, 0, 4, 0, 2);
+        TwinThreads told = Checks.with("[a]=b;c=a+b", "");
+        ofThread("a cell is no register", told, 0, 2, 2, 4, 0, 0, 0, 0, 1, 2, 0, 1);
         TwinThreads asked = Checks.with("a=[b];a?9", "");
         ofThread("a register that is asked", asked, 0, 2, 2, 5, 0, 3, 0, 0, 0, 4, 0, 1);
         TwinThreads other = Checks.with("a=b*c;b=1;c=2", "");
@@ -338,6 +342,8 @@ public final class PromiseTest {
         ofThread("own product", products, 0, 2, 2, 7, 0, 0, 2, 0, 1, 4, 2, 0);
         TwinThreads cells = Checks.with("a=[b];[b]=c", "");
         ofThread("own cell", cells, 0, 2, 2, 8, 0, 0, 3, 0, 0, 4, 0, 2);
+        TwinThreads later = Checks.with("", "a=b*c;d=b*c");
+        ofThread("own product of the thread 1", later, 1, 2, 2, 8, 0, 0, 2, 0, 2, 5, 2, 0);
         TwinThreads both = Checks.with("a=[b];c=d*d", "");
         ofThread("one in each room", both, 0, 2, 2, 5, 0, 0, 0, 0, 1, 2, 1, 1);
         TwinThreads register = Checks.with("a=b*c;d=a*a", "");
@@ -544,19 +550,16 @@ public final class PromiseTest {
         due("nothing has changed", x.count(0), 7);
         due("no change is recorded", x.count(6), 3);
 
-        // By lent turns the thread 0 keeps the room (ticks 0 and 2), by fair ones the thread 1 gets it in 2.
-        TwinThreads y = Checks.with("a=b*c;a=b*c", "a=b*c;d=a*a;c=d*d");
+        // Where it has its turn, the thread 0 keeps the room in the tick 2; by TURNS 2 the thread 1 gets it.
+        TwinThreads y = Checks.with("a=b*c;a=b*c", "a=b*c;c=[d]");
         y.set(TwinThreads.PRODUCT, 2);
+        y.set(TwinThreads.CELL, 9);
+        int[] others = {16, 14, 12};
         for (int turns = 0; turns < 3; turns++) {
-            due("as if set", y.lengthWith(turns), lengthSet(turns));
+            due("lengthWith(" + turns + ")", y.lengthWith(turns), others[turns]);
         }
-    }
-
-    private static int lengthSet(int turns) {
-        TwinThreads x = Checks.with("a=b*c;a=b*c", "a=b*c;d=a*a;c=d*d");
-        x.set(TwinThreads.PRODUCT, 2);
-        x.set(TwinThreads.TURNS, turns);
-        return x.count(0);
+        due("the third is the best", y.bestTurns(), 2);
+        due("the first one is set", y.count(0), 16);
     }
 
     // Promise 19
@@ -627,6 +630,7 @@ public final class PromiseTest {
         due("a ? leads to the second", withSeven(orders + ";b?2", "").bestExchange(0, 0), NONE);
         due("a ? leads ahead of both", withSeven(orders + ";b?0", "").bestExchange(0, 0), 1);
         due("a ? leads behind both", withSeven(orders + ";b?3", "").bestExchange(0, 0), 1);
+        due("the first order leads there", withSeven("b?2;" + orders, "").bestExchange(0, 0), NONE);
         due("a ? that is never asked leads there", withSeven(orders + ";c?9;b?1", "").bestExchange(0, 0), NONE);
         due("a ? of the other one leads there", withSeven(orders, "a?1").bestExchange(0, 0), 1);
         due("behind a ?", withSeven("b?9;" + orders, "").bestExchange(0, 0), 2);
@@ -643,6 +647,9 @@ public final class PromiseTest {
         due("the last d counts", withSeven("a=b*c;d=a+a;d=2;c?0", "").bestExchange(0, 0), NONE);
         due("the last b counts", withSeven("a=b*c;d=a+a;b=2;c?0", "").bestExchange(0, 0), 1);
         due("a cell counts", withSeven("a=b*c;[a]=a;a=2", "").bestExchange(0, 0), NONE);
+        TwinThreads z = Checks.with("b=c*c;a=b+b;d=2", "");
+        z.first(0, 1, 7);
+        due("a counts", z.bestExchange(0, 0), 1);
         TwinThreads y = Checks.with("a=b*c;d=a+a;c=2", "");
         due("by the values of this run they are the same", y.bestExchange(0, 0), 0);
     }
