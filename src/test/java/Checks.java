@@ -8,9 +8,15 @@ final class Checks {
     private final String test;
     private final List<String> wrong = new ArrayList<>();
     private long made;
+    private String sentence = "";
 
     Checks(String test) {
         this.test = test;
+    }
+
+    /** Tells which sentence of the document the checks from here on belong to. */
+    void sentence(String sentence) {
+        this.sentence = "'" + sentence + "': ";
     }
 
     void due(String call, long got, long want) {
@@ -41,7 +47,7 @@ final class Checks {
     private void fail(String text) {
         wrong.add(text);
         if (wrong.size() <= SHOWN) {
-            System.out.println(test + ": " + text);
+            System.out.println(test + ": " + sentence + text);
         }
     }
 
