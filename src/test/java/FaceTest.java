@@ -65,7 +65,8 @@ public final class FaceTest {
         }
         for (Class<?> type : TwinThreads.class.getDeclaredClasses()) {
             for (Method method : type.getDeclaredMethods()) {
-                CHECKS.holds(method + " has a name of its own", !names.contains(method.getName()));
+                CHECKS.holds(method + " has a name of its own",
+                    !Modifier.isPrivate(method.getModifiers()) || !names.contains(method.getName()));
             }
         }
     }
@@ -89,12 +90,17 @@ public final class FaceTest {
 
     private static void classesInside() {
         Class<?>[] inside = TwinThreads.class.getDeclaredClasses();
-        CHECKS.holds("at most twelve classes", inside.length < 12);
+        CHECKS.holds("at most some twelve classes", inside.length <= 12);
         for (Class<?> type : inside) {
             int how = type.getModifiers();
-            CHECKS.holds(type + " is static and private", Modifier.isStatic(how) && Modifier.isPrivate(how));
+            CHECKS.holds(type + " is static", Modifier.isStatic(how));
+            CHECKS.holds(type + " is private or package-visible", !Modifier.isPublic(how) && !Modifier.isProtected(how));
             long fields = Arrays.stream(type.getDeclaredFields()).filter(f -> !Modifier.isStatic(f.getModifiers())).count();
-            CHECKS.holds(type + " has at most twenty fields", fields <= 20);
+            CHECKS.holds(type + " has at most some twenty fields", fields <= 20);
+            for (Field field : type.getDeclaredFields()) {
+                CHECKS.holds(field + " is final if it is static",
+                    !Modifier.isStatic(field.getModifiers()) || Modifier.isFinal(field.getModifiers()));
+            }
             for (Method method : type.getDeclaredMethods()) {
                 CHECKS.holds(method + " has at most seven parameters", method.getParameterCount() <= 7);
             }
@@ -104,21 +110,35 @@ public final class FaceTest {
     private static void text() throws IOException {
         String whole = Files.readString(Path.of("src/main/java/TwinThreads.java"));
         String text = Pattern.compile("/\\*.*?\\*/|//[^\n]*", Pattern.DOTALL).matcher(whole).replaceAll("");
-        for (String word : new String[] {"throw", "throws", "try", "catch", "synchronized", "assert", "import", "package",
-            "instanceof", "native", "volatile", "transient", "var", "Object", "System.out", "hashCode", "toString"}) {
+        for (String word : new String[] {"throw", "throws", "try", "catch", "synchronized", "assert", "package", "hashCode",
+            "Object", "Class"}) {
             CHECKS.holds("the text has no " + word, !Pattern.compile("\\b" + word + "\\b").matcher(text).find());
         }
-        CHECKS.holds("no lambda or method reference", !text.contains("->") && !text.contains("::"));
+        Matcher imports = Pattern.compile("import\\s+([^;]*);").matcher(text);
+        while (imports.find()) {
+            CHECKS.holds("import " + imports.group(1),
+                imports.group(1).matches("java\\.util\\.(ArrayList|List|Iterator|Arrays)"));
+        }
+        CHECKS.holds("no lambda or method reference",
+            !text.replaceAll("(case\\s[^:;{}]*|default\\s*)->", "").contains("->") && !text.contains("::"));
         CHECKS.holds("no wild loop", !text.contains("while (true)") && !text.contains("for (;;)"));
         Matcher library = Pattern.compile("\\b(Math|System|Integer|Long|String|Arrays)\\.(\\w+)").matcher(text);
         while (library.find()) {
-            CHECKS.holds(library.group() + " is in the library that is left",
-                Set.of("Math.max", "Math.min", "Math.floorMod", "System.arraycopy").contains(library.group()));
+            CHECKS.holds(library.group() + " is in the library that is left", isLeft(library.group(1), library.group(2)));
         }
         for (char c : whole.toCharArray()) {
             CHECKS.holds("a sign of the text is 1 to 127", c >= 1 && c <= 127);
         }
         methodsAreShort(whole.split("\n"));
+    }
+
+    private static boolean isLeft(String type, String name) {
+        return switch (type) {
+            case "System" -> name.equals("arraycopy");
+            case "Arrays" -> Set.of("copyOf", "copyOfRange", "fill").contains(name);
+            case "String" -> false;
+            default -> !name.endsWith("Exact") && !Set.of("random", "getInteger", "getLong").contains(name);
+        };
     }
 
     private static void methodsAreShort(String[] lines) {
@@ -135,17 +155,14 @@ public final class FaceTest {
         }
     }
 
-    /** 512 calls in a row of the dearest kinds make nothing; an object itself is small. */
+    /** "some 600,000 objects and arrays, 7.3 million fields and elements in all": of at least 4 bytes each. */
     private static void room() {
         com.sun.management.ThreadMXBean meter = (com.sun.management.ThreadMXBean) ManagementFactory.getThreadMXBean();
         useAll(new TwinThreads());
         long before = meter.getCurrentThreadAllocatedBytes();
-        TwinThreads x = new TwinThreads();
-        long made = meter.getCurrentThreadAllocatedBytes();
-        useAll(x);
-        long used = meter.getCurrentThreadAllocatedBytes();
-        CHECKS.holds("a new object takes at most 40,000 bytes: " + (made - before), made - before <= 40000);
-        CHECKS.holds("calls make nothing: " + (used - made), used - made <= 2000);
+        useAll(new TwinThreads());
+        long used = meter.getCurrentThreadAllocatedBytes() - before;
+        CHECKS.holds("an object and 480 calls take at most 29,200,000 bytes: " + used, used <= 29_200_000);
     }
 
     private static void useAll(TwinThreads x) {

@@ -358,6 +358,20 @@ public final class PromiseBoundaryTest {
             due("drop of the other one", x.drop(1), 1);
             due("the length then", x.count(0), 0);
         }
+        TwinThreads values = Checks.with("a=1", "");
+        for (int at = 0; at <= 11; at++) {
+            values.first(0, at, 30 + at);
+        }
+        Checks.write(values, "d=5");
+        values.drop(0);
+        due("the pad stays", values.count(5), 3);
+        for (int at = 0; at <= 11; at++) {
+            due("first values stay, at " + at, values.last(0, at), 30 + at);
+        }
+        values.program(0);
+        for (int at = 0; at <= 11; at++) {
+            due("and by another program, at " + at, values.last(0, at), at == 3 ? 5 : 30 + at);
+        }
     }
 
     // ---- Promise 8
@@ -661,9 +675,9 @@ public final class PromiseBoundaryTest {
 
     private static void countsGrow() {
         sentence("15: 1 steps of both threads, 2 ticks of the run in which none starts, 3 and 4 ticks in which a room is taken");
-        TwinThreads x = by(0, 9, 9, "a=b*c", "a=[b];c=1");
-        // 0: the product of 0 to 9; 1: the cell of 1 to 10; 3: c=1.
-        int[] wants = {10, 3, 7, 9, 9};
+        TwinThreads x = by(0, 9, 7, "a=b*c", "a=[b];c=1");
+        // 0: the product of 0 to 9; 1: the cell of 1 to 8; 3: c=1.
+        int[] wants = {9, 3, 6, 9, 7};
         for (int what = 0; what < wants.length; what++) {
             due("count(" + what + ")", x.count(what), wants[what]);
         }
@@ -1130,6 +1144,9 @@ public final class PromiseBoundaryTest {
         pad.wipe();
         pad.restore(0);
         due("the pad is not saved", pad.count(5), 0);
+        TwinThreads kept = some();
+        kept.restore(0);
+        due("restore leaves the pad", kept.count(5), 3);
     }
 
     private static void saveOverwrites() {

@@ -454,6 +454,12 @@ public final class TermsBoundaryTest {
                 fault(begin + "0" + digit, 3);
                 fault(begin + "0" + digit + ";b=1", 3);
             }
+            // The neighbours of the digits among the characters.
+            for (char other : new char[] {'/', ':'}) {
+                fault(begin + other, 2);
+                fault(begin + "1" + other, 3);
+                fault(begin + "12" + other, 4);
+            }
         }
     }
 
