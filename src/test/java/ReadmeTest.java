@@ -89,6 +89,5 @@ public final class ReadmeTest {
         while (named.find()) {
             CHECKS.holds("there is a file " + named.group(1), Files.exists(Path.of("src/test/java/" + named.group(1) + ".java")));
         }
-        CHECKS.holds(".ci/run can be run", Files.isExecutable(Path.of(".ci/run")));
     }
 }
